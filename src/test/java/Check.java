@@ -57,12 +57,13 @@ final class Check {
     return x.text();
   }
 
-  /** A new chancery from a text that has no fault. */
+  /** A new chancery from items without a fault, each read by itself: together they may be too long. */
   static WaxTreaties made(String text) {
     WaxTreaties x = new WaxTreaties();
-    int items = read(x, text);
-    if (items < 0) {
-      throw new IllegalStateException("fault in: " + text);
+    for (String item : text.split(";")) {
+      if (read(x, item) != 1) {
+        throw new IllegalStateException("fault in: " + item);
+      }
     }
     return x;
   }

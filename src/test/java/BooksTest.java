@@ -36,6 +36,13 @@ public final class BooksTest {
     check.due("31: just the first", x.began(), 1 << 9);
     check.due("31: nothing changes", x.now(0) * 1000 + x.now(2) * 100 + x.of(1, 3), 24100);
     check.due("31: no deeds", Check.at(24).began(), (1 << 25) - 2);
+    // From 16 on 5, 3 and 1 over make 9: not run, as it would if it had begun soft.
+    WaxTreaties y = Check.made("summer 40; deed 0 wax 43");
+    y.hours(24);
+    y.renew(0);
+    y.change(0, 3, 99);
+    check.due("31: it begins with 0", y.began() >> 8 & 1, 1);
+    check.due("31: h 9 is 15 and on: 7, 12", y.began() >> 9 & 1, 0);
   }
 
   /** Those that have run of the same begun anew at 24 - h, gone till 24. */

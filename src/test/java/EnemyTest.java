@@ -55,6 +55,14 @@ public final class EnemyTest {
     // Its own sun makes 7 of it by 14, and the drop at 13 the rest; that needs the sun on shelf 1.
     WaxTreaties y = Check.made("summer 30; deed 1 wax 45; deed 2 wax 41");
     check.due("25: two", y.least(1, 24), 2);
+    // So on each shelf, but the topmost, whose own sun is enough: a drop each down to the last.
+    WaxTreaties z = Check.made("summer 30; deed 0 wax 52; deed 1 wax 47; deed 2 wax 41; deed 3 wax 35; deed 4 wax 29; deed 5 wax 23");
+    for (int d = 0; d < 6; d++) {
+      check.due("25: as many as shelves", z.least(d, 24), d + 1);
+    }
+    z.shelf(3, 0, 1);
+    check.due("25: one less", z.least(5, 24), 5);
+    check.due("25: those ahead of it", z.least(2, 24), 3);
   }
 
   private static void leastWithoutAll() {
@@ -87,6 +95,8 @@ public final class EnemyTest {
     y.shelf(1, 0, 1);
     check.due("26: with that one open", y.nail(24), 3);
     check.due("26: no deeds", new WaxTreaties().nail(1), 0);
+    WaxTreaties z = Check.made("summer 30; deed 2 wax 32; deed 5; deed 5; deed 5; deed 5; deed 5; deed 5; deed 5");
+    check.due("26: all eight", z.nail(24), 2);
   }
 
   private static void refusals() {

@@ -186,6 +186,12 @@ public final class HoursTest {
     x.shelf(2, 2, 0);
     check.due("12: at 13 without the candle", x.now(5), 5);
     check.due("12: summer", x.now(6), 22);
+    for (int s = 0; s < 6; s++) {
+      WaxTreaties y = Check.made("candle " + s + " here;summer 3;ice 0 99");
+      y.shelf(s, 0, 1);
+      y.hours(13);
+      check.due("12: by candle and sun", y.now(5), s);
+    }
     check.due("12: now(7)", x.now(7), Check.BEYOND);
     check.due("12: now(-1)", x.now(-1), Check.BEYOND);
     x.renew(0);

@@ -119,6 +119,10 @@ public final class PlacesTest {
     check.due("20: for an hour", x.bears(0, 1), 3);
     x.change(0, 2, 8);
     check.due("20: for two", x.bears(0, 2), 0);
+    x.change(0, 2, 3);
+    check.due("20: just 0", x.bears(0, 1), 0);
+    x.change(0, 2, 2);
+    check.due("20: below 0 doesn't count", x.bears(0, 1), Check.NONE);
     check.due("20: nothing changes", x.count(2), 15);
   }
 

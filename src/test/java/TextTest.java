@@ -156,6 +156,15 @@ public final class TextTest {
   }
 
   private static void numbersAsTold() {
+    String[] alike = {"xeed 0", "oeed 0", "xouble 0", "xallow 0", "xopy 0", "xtacked 0", "xuried 0", "xalse 0",
+      "xhutter 0 open", "xce 0 0", "xandle 0 here", "xummer 0", "deed0 xax 5", "deed0 xn 0", "ice0x"};
+    for (String text : alike) {
+      fault(text, text.indexOf('x') < 0 ? 0 : text.indexOf('x'));
+    }
+    fault("shutter 0 xpen", 10);
+    fault("shutter 0 xhut", 10);
+    fault("candle 0 xere", 9);
+    fault("candle 0 xone", 9);
     fault("deed 6", 5);
     fault("false 7", 6);
     fault("deed 10", 5);

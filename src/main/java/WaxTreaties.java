@@ -1100,7 +1100,7 @@ public final class WaxTreaties {
       }
       int runs = 0;
       for (int d = 0; d < deeds; d++) {
-        if (!hasRun(d) && softens(d)) {
+        if (!has(run, d) && softens(d)) {
           run = with(run, d);
           dropOn(shelf[d] + 1);
           runs++;
@@ -1124,14 +1124,16 @@ public final class WaxTreaties {
 
     private void dropOn(int beneath) {
       for (int d = 0; d < deeds; d++) {
-        if (shelf[d] == beneath && !hasRun(d)) {
+        if (shelf[d] == beneath && !has(run, d)) {
           soft[d] = Math.min(MOST, soft[d] + 3);
         }
       }
     }
 
     int holdingBehind(int h) {
-      pass(h);
+      for (int i = 0; i < h; i++) {
+        passHour();
+      }
       return Integer.bitCount(peaces(run));
     }
 
@@ -1165,8 +1167,13 @@ public final class WaxTreaties {
     }
 
     private int firstEnded() {
-      int ended = ~peaces(run) & (1 << deeds) - 1;
-      return ended == 0 ? NOTHING : Integer.numberOfTrailingZeros(ended);
+      int holding = peaces(run);
+      for (int d = 0; d < deeds; d++) {
+        if (!has(holding, d)) {
+          return d;
+        }
+      }
+      return NOTHING;
     }
   }
 
@@ -1396,46 +1403,35 @@ public final class WaxTreaties {
         next++;
       }
       at = next;
-      int first = byteAt(at);
-      if (first == NOTHING) {
-        sort = END;
-      } else if (isLetter(first)) {
-        sort = WORD;
-        stepOverLetters();
-      } else if (isDigit(first)) {
-        sort = NUMBER;
-        stepOverDigits();
-      } else {
-        sort = first == ';' ? SIGN : NO_TOKEN;
+      sort = sortAt(at);
+      if (sort == SIGN || sort == NO_TOKEN) {
         next++;
       }
-    }
-
-    private void stepOverLetters() {
-      while (next < length && isLetter(byteAt(next))) {
-        next++;
-      }
-    }
-
-    private void stepOverDigits() {
       value = 0;
-      while (next < length && isDigit(byteAt(next))) {
+      while ((sort == WORD || sort == NUMBER) && next < length && sortAt(next) == sort) {
         // Many digits must not wrap around into a number that would fit.
         value = Math.min(TOO_MUCH, value * 10 + byteAt(next) - '0');
         next++;
       }
     }
 
+    /** The sort of a token that would begin at a place. */
+    private int sortAt(int place) {
+      int b = byteAt(place);
+      if (b == NOTHING) {
+        return END;
+      }
+      if (b >= 'a' && b <= 'z') {
+        return WORD;
+      }
+      if (b >= '0' && b <= '9') {
+        return NUMBER;
+      }
+      return b == ';' ? SIGN : NO_TOKEN;
+    }
+
     private int byteAt(int place) {
-      return isWithin(place, 0, length - 1) ? bytes[place] : NOTHING;
-    }
-
-    private static boolean isLetter(int b) {
-      return isWithin(b, 'a', 'z');
-    }
-
-    private static boolean isDigit(int b) {
-      return isWithin(b, '0', '9');
+      return place >= 0 && place < length && place < BYTES ? bytes[place] : NOTHING;
     }
   }
 }

@@ -1403,21 +1403,20 @@ public final class WaxTreaties {
         next++;
       }
       at = next;
-      sort = sortAt(at);
+      sort = sortOf(byteAt(at));
       if (sort == SIGN || sort == NO_TOKEN) {
         next++;
       }
       value = 0;
-      while ((sort == WORD || sort == NUMBER) && next < length && sortAt(next) == sort) {
+      while ((sort == WORD || sort == NUMBER) && next < length && sortOf(byteAt(next)) == sort) {
         // Many digits must not wrap around into a number that would fit.
         value = Math.min(TOO_MUCH, value * 10 + byteAt(next) - '0');
         next++;
       }
     }
 
-    /** The sort of a token that would begin at a place. */
-    private int sortAt(int place) {
-      int b = byteAt(place);
+    /** The sort of a token that begins with a byte. */
+    private static int sortOf(int b) {
       if (b == NOTHING) {
         return END;
       }

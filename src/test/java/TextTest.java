@@ -161,6 +161,8 @@ public final class TextTest {
     for (String text : alike) {
       fault(text, text.indexOf('x') < 0 ? 0 : text.indexOf('x'));
     }
+    fault("deedz 0", 0);
+    fault("deeda 0", 0);
     fault("shutter 0 xpen", 10);
     fault("shutter 0 xhut", 10);
     fault("candle 0 xere", 9);

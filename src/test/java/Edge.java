@@ -15,7 +15,8 @@ import java.util.regex.Pattern;
  *
  * <p>Where the act answers a finding, it must change nothing but status(): everything that can be
  * asked is asked of this object and of a second one that had the same calls without the act, and
- * the two must answer alike but for the status, which has one more.
+ * the two must answer alike but for the status, which has one more. A text with a fault is looked at
+ * in the same way, against a second object whose tape was wiped instead.
  *
  * <p>Calls are written as in Java and parted by ; with = and the due answer behind them. Besides:
  * at[n] lets n hours go, say[..] reads items one by one, tape[..] feeds the characters to the tape.
@@ -101,8 +102,12 @@ final class Edge {
     Call last = acts.get(0);
     told.add(new Told(Integer.parseInt(parts.group(1)), parts.group(2), last.name, last.due, after.size()));
     run(name, before, last, after);
-    if (isFinding(last.due) && !last.name.equals("seed") && !last.name.equals("count")) {
-      twins(name, before, last);
+    boolean isAnyInt = last.name.equals("seed") || (last.name.equals("count") && last.arguments[0] == 6);
+    if (isFinding(last.due) && !isAnyInt) {
+      twins(name, before, last, null);
+    } else if (last.name.equals("text") && last.due < 0) {
+      // A FAULT: nothing changes but that the tape is empty, as wipe() makes it; no finding.
+      twins(name, before, last, new Call("wipe", new int[0], null));
     }
   }
 
@@ -127,19 +132,19 @@ final class Edge {
     }
   }
 
-  private void twins(String name, List<Call> before, Call act) {
+  private void twins(String name, List<Call> before, Call act, Call instead) {
     for (int which = -1; which < FINDINGS.size(); which++) {
-      int more = which < 0 || which == FIRST_FINDING - act.due ? 1 : 0;
+      boolean isCounted = isFinding(act.due) && (which < 0 || which == FIRST_FINDING - act.due);
       Call status = new Call("status", new int[] {which}, null);
-      int got = answer(made(before, act), status);
-      check.due(name + ": behind " + status, got, answer(made(before, null), status) + more);
+      int want = answer(made(before, instead), status) + (isCounted ? 1 : 0);
+      check.due(name + ": behind " + status, answer(made(before, act), status), want);
     }
     for (List<Call> probes : PROBES) {
       if (before.size() + 1 + probes.size() > MOST_CALLS) {
         throw new IllegalArgumentException("too many calls: " + name);
       }
       WaxTreaties x = made(before, act);
-      WaxTreaties y = made(before, null);
+      WaxTreaties y = made(before, instead);
       for (Call probe : probes) {
         check.due(name + ": nothing changes, " + probe, answer(x, probe), answer(y, probe));
       }

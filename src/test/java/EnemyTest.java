@@ -5,7 +5,6 @@ public final class EnemyTest {
   public static void main(String[] args) {
     enemyAndWorst();
     least();
-    leastWithoutAll();
     nail();
     refusals();
     byTrying();
@@ -63,17 +62,6 @@ public final class EnemyTest {
     z.shelf(3, 0, 1);
     check.due("25: one less", z.least(5, 24), 5);
     check.due("25: those ahead of it", z.least(2, 24), 3);
-  }
-
-  private static void leastWithoutAll() {
-    // Shut, the copy runs at 14 and drops on the deed when it is softest: with shutter 2 open that
-    // runs it. With shutter 1 open too it drops at 10, and the deed cools till noon.
-    WaxTreaties x = Check.made("summer 30; copy 1 wax 43; deed 2 wax 41");
-    check.due("25: one does it", x.least(1, 24), 1);
-    open(x, 6);
-    check.due("25: these two don't", x.ahead(24, 0), 2);
-    open(x, 63);
-    check.due("25: nor do all", x.ahead(24, 0), 2);
   }
 
   private static void nail() {

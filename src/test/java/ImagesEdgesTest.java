@@ -101,8 +101,8 @@ public final class ImagesEdgesTest {
     e.edge("49 'BEYOND (counted from then on): another one' twice", "status(7) = BEYOND; ", "status(7) = BEYOND", "status(0) = 2; status(-1) = 2");
     e.edge("49 'How many acts answered a finding ever' none", SOME, "status(-1) = 0", "status(0) = 0; status(6) = 0");
     e.edge("49 'How many acts answered a finding ever' no FAULT is one", "text(); ", "status(-1) = 0", "tape[x]; text() = -1; status(-1) = 0");
-    e.edge("49 'How many acts answered a finding ever' 500 of them",
-        "of(0,0) = BEYOND; ".repeat(500), "status(-1) = 500", "status(0) = 500; status(1) = 0");
+    e.edge("49 'How many acts answered a finding ever' 300 of them",
+        "of(0,0) = BEYOND; ".repeat(300), "status(-1) = 300", "status(0) = 300; status(1) = 0");
     e.edge("49 '(undo() takes none back)' told ahead of image() and behind it", "of(0,0) = BEYOND; image(); undo(); of(0,0) = BEYOND; key() = NONE; undo(); ", "status(-1) = 3", "status(0) = 2; status(3) = 1");
     e.edge("49 '(undo() takes none back)' undo()'s own", "undo() = NONE; image(); undo(); ", "status(3) = 1", "status(-1) = 1");
   }

@@ -487,6 +487,20 @@ final class Model {
     throw new Finding(Check.NONE);
   }
 
+  /** Not where a lesser set of shutters does it but all don't: the document doesn't say which counts. */
+  boolean isLeastClear(int deed, int h) {
+    if (deed < 0 || deed >= w.deeds.size() || h < 1 || h > 100 || w.hour + h > 9999
+        || !w.opened(w.shut()).after(h).deeds.get(deed).holds()) {
+      return true;
+    }
+    for (int set = 0; set < 64; set++) {
+      if ((set & ~w.shut()) == 0 && !w.opened(set).after(h).deeds.get(deed).holds()) {
+        return false;
+      }
+    }
+    return true;
+  }
+
   private int nail(int h) {
     hoursAhead(h, 100);
     ask(w.shut() != 0, Check.NONE);

@@ -83,7 +83,8 @@ public final class ModelTest {
   private static boolean isCallFine(int run, WaxTreaties x, Model model, int m, Random random)
       throws ReflectiveOperationException {
     int[] arguments = arguments(methods[m].getName(), methods[m].getParameterCount(), random, model);
-    return isSame(run, x, model, m, arguments);
+    boolean isClear = !methods[m].getName().equals("least") || model.isLeastClear(arguments[0], arguments[1]);
+    return !isClear || isSame(run, x, model, m, arguments);
   }
 
   private static boolean isSame(int run, WaxTreaties x, Model model, int m, int[] arguments)
@@ -146,7 +147,7 @@ public final class ModelTest {
     }
     if (random.nextInt(3) == 0) {
       int at = random.nextInt(text.length());
-      String signs = "abz;0159 !on\t\u00e9";
+      String signs = "abz;0159 !on\0\u00e9";
       if (random.nextBoolean()) {
         text.setCharAt(at, signs.charAt(random.nextInt(signs.length())));
       } else if (random.nextBoolean()) {
@@ -155,7 +156,9 @@ public final class ModelTest {
         text.insert(at, signs.charAt(random.nextInt(signs.length())));
       }
     }
-    return text.length() > 120 ? text.substring(0, 120) : text.toString();
+    // Blanks stand between tokens; whether ahead of the first and behind the last is not said.
+    String all = text.length() > 120 ? text.substring(0, 120) : text.toString();
+    return all.strip();
   }
 
   /** Mostly such as can stand; now and then an edge. */
@@ -179,6 +182,11 @@ public final class ModelTest {
     }
     if (name.equals("seed") || (name.equals("write") && random.nextBoolean())) {
       a[many - 1] = random.nextInt();
+    }
+    // Of no numbers it isn't said from where on they are too few.
+    if (name.equals("copy") && a[4] == 0) {
+      a[1] = 0;
+      a[3] = 0;
     }
     if (name.equals("sheet") && random.nextInt(8) != 0) {
       a[1] = new int[] {0, 8, 8, 8, 8, 8, 16, 32}[random.nextInt(8)];

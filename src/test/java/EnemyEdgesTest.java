@@ -81,6 +81,9 @@ public final class EnemyEdgesTest {
     e.edge("23 'of several the least set' all HOLD anyhow", FRONTIER, "enemy(2,6) = 3", STAYS);
     e.edge("23 'of several the least set' but of those that are shut", "shelf(0,0,1); shelf(2,0,1); ", "enemy(2,1) = 10", "count(3) = 5");
     e.edge("23 'of several the least set' 0 and 2 do as much as 1 and 2", FRONTIER, "enemy(2,24) = 5", STAYS);
+    e.edge("23 'of several the least set' all eight HOLD anyhow, of one", EIGHT, "enemy(1,1) = 1", "count(3) = 0; now(1) = 255");
+    e.edge("23 'of several the least set' all eight HOLD anyhow, of three", EIGHT, "enemy(3,1) = 7", "count(3) = 0; now(1) = 255");
+    e.edge("23 'of several the least set' but seven of eight HOLD", EIGHT + "change(3,3,50); hours(1); ", "enemy(2,1) = 3", "count(3) = 0; now(1) = 247");
     e.edge("23 'with which fewest PEACES HOLD' the last SHUTTER", "say[summer 30; deed 5 wax 14]; ", "enemy(1,24) = 32", "count(3) = 0");
   }
 
@@ -130,6 +133,9 @@ public final class EnemyEdgesTest {
     e.edge("26 'The SHUTTER, shut, that should be nailed up' all HOLD anyhow: the least", FRONTIER, "nail(6) = 0", STAYS);
     e.edge("26 'The SHUTTER, shut, that should be nailed up' the last", "say[summer 30; deed 5 wax 14]; ", "nail(24) = 5", "count(3) = 0; now(2) = 0");
     e.edge("26 'most PEACES HOLD at worst' two are more than one", three, "nail(24) = 1", "count(3) = 0; now(1) = 7");
+    e.edge("26 'most PEACES HOLD at worst' eight are more than seven", "say[summer 30; deed 2 wax 32; deed 5; deed 5; deed 5; deed 5; deed 5; deed 5; deed 5]; ", "nail(24) = 2", "count(3) = 0; now(1) = 255");
+    e.edge("26 'most PEACES HOLD at worst' the enemy may open the topmost", "say[summer 30; deed 0 wax 44; deed 0 wax 44; deed 3 wax 26]; ", "nail(24) = 0", "count(3) = 0; now(1) = 7");
+    e.edge("26 'most PEACES HOLD at worst' the enemy may open the last", "say[summer 30; deed 0 wax 44; deed 5 wax 14; deed 5 wax 14]; ", "nail(24) = 5", "count(3) = 0; now(1) = 7");
     e.edge("26 'most PEACES HOLD at worst' one that is open can't be nailed up", three + "shelf(1,0,1); ", "nail(24) = 3", "count(3) = 2");
   }
 }

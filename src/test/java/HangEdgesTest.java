@@ -91,6 +91,11 @@ public final class HangEdgesTest {
     e.edge("31 'HOURS h (1 to 24)' all but 24", "at[37]; " + noon, "began() = " + ((1 << 24) - 2), "now(0) = 37; now(2) = 0");
     // By night it is 6 over in each hour.
     e.edge("31 'HOURS h (1 to 24)' just 1", "at[24]; say[summer 40; deed 0 wax 34]; ", "began() = 2", "now(0) = 24; now(2) = 0");
+    e.edge("31 'HOURS h (1 to 24)' eight DEEDS", "at[24]; " + EIGHT, "began() = " + all, "now(0) = 24; now(1) = 255");
+    e.edge("31 'all SOFT been 0 and none RUN' 9 in an HOUR aren't 10", "at[24]; summer(40); deed(0,0); change(0,2,31); change(0,3,5); ", "began() = 2", "now(0) = 24; of(0,3) = 5");
+    e.edge("31 'all SOFT been 0 and none RUN' 10 in an HOUR are", "at[24]; summer(40); deed(0,0); change(0,2,30); change(0,3,5); ", "began() = 0", "now(0) = 24; of(0,3) = 5");
+    // Iced it doesn't soften; that is for two HOURS, whenever it began. Then it takes two more.
+    e.edge("31 'all else as it is now' the ICE of now", "at[24]; summer(40); deed(0,0); change(0,2,34); shelf(0,1,2); ", "began() = 14", "now(0) = 24; now(4) = 2");
     e.edge("31 'HOURS h (1 to 24)' all but 1", "at[24]; say[summer 40; deed 0 wax 34]; change(0,3,50); hours(1); ", "began() = " + (all - 2), "now(0) = 25; now(2) = 1");
   }
 
@@ -151,6 +156,8 @@ public final class HangEdgesTest {
     e.edge("33 'STATE: HOUR would be above 9999' just 9999 by a day", "at[9975]; ", "days(1) = 0", "now(0) = 9999; days(1) = STATE");
     e.edge("33 'STATE: HOUR would be above 9999' just 9999 by twelve days", "at[9711]; ", "days(12) = 0", "now(0) = 9999");
     e.edge("33 'how many SEALS RUN in them' those of each day", "deed(0,5); deed(0,5); change(0,3,11); ", "days(1) = 1", "now(2) = 1; change(1,3,50) = 0; days(1) = 1");
+    e.edge("33 'how many SEALS RUN in them' of two days, in the first", "deed(0,5); change(0,3,11); ", "days(2) = 1", "now(2) = 1; now(0) = 48");
+    e.edge("33 'how many SEALS RUN in them' all eight", EIGHT + ALL_RUN.replace("hours(1); ", ""), "days(1) = 8", "now(2) = 255; now(0) = 24");
     e.edge("33 'SUMMER is the rest of a draw by 41' the greatest rest", "seed(7); ", "days(1) = 0", "count(2) = 40; count(3) = 8; count(6) = 642666333");
     e.edge("33 'SUMMER is the rest of a draw by 41' no rest", "seed(46); ", "days(1) = 0", "count(2) = 0; count(3) = 32; count(6) = -854338212");
     e.edge("33 'the SHUTTER that is the rest of the next one by 6 is the other way' no rest", "seed(-1); ", "days(1) = 0", "count(2) = 33; count(3) = 1; count(6) = 288979989");

@@ -115,6 +115,7 @@ public final class PlacesEdgesTest {
     e.edge("18 '(99 at most there then)' 99 are there", "at[9]; say[summer 40; ice 1 99; deed 1 wax 38]; ", "ice(99,100) = 0", "shelf(1,1,0) = 99");
     e.edge("18 'so that most PEACES HOLD' there are no DEEDS: the least SHELF", "", "ice(1,1) = 0", "now(4) = 0");
     e.edge("18 'so that most PEACES HOLD' all HOLD anyhow: the least SHELF", "say[deed 4]; ", "ice(9,9) = 0", "now(4) = 0");
+    e.edge("18 'so that most PEACES HOLD' eight DEEDS, all of which HOLD with ICE on the last SHELF", "say[summer 40; deed 5 wax 10; deed 5 wax 10; deed 5 wax 10; deed 5 wax 10; deed 5 wax 10; deed 5 wax 10; deed 5 wax 10; deed 5 wax 10]; ", "ice(50,24) = 5", "now(4) = 0; ahead(24,0) = 0");
     e.edge("18 'so that most PEACES HOLD' as many with each of two SHELVES", "say[summer 40; deed 3 wax 24; deed 2 wax 29]; ", "ice(30,24) = 2", "now(4) = 0");
     e.edge("18 'so that most PEACES HOLD' two are more than one", "say[summer 40; deed 2 wax 29; deed 3 wax 24; deed 3 wax 24]; ", "ice(30,24) = 3", "now(4) = 0");
   }
@@ -167,6 +168,7 @@ public final class PlacesEdgesTest {
     e.edge("22 'The KIND which, all being of it, lets most PEACES HOLD' all HOLD anyhow: the least", "say[copy 5; false 5]; ", "law(100) = 0", "of(0,0) = 3; of(1,0) = 6");
     e.edge("22 'The KIND which, all being of it, lets most PEACES HOLD' none HOLDS anyhow: the least", "say[copy 5; false 5]; change(0,3,50); change(1,3,50); hours(1); ", "law(1) = 0", "of(0,0) = 3; of(1,0) = 6");
     e.edge("22 'The KIND which, all being of it, lets most PEACES HOLD' of DOUBLE and STACKED the lesser", "say[summer 0; deed 0]; change(0,3,19); ", "law(1) = 1", "of(0,0) = 0; of(0,3) = 19");
+    e.edge("22 'The KIND which, all being of it, lets most PEACES HOLD' eight DEEDS", EIGHT + "change(0,0,3); change(7,0,6); change(7,3,19); ", "law(1) = 1", "of(0,0) = 3; of(7,0) = 6; of(7,3) = 19");
     e.edge("22 'The KIND which, all being of it, lets most PEACES HOLD' the greatest that can be", "say[summer 40; shutter 0 open; deed 0]; ", "law(24) = 5", "of(0,0) = 0");
   }
 }

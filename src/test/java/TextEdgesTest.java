@@ -127,6 +127,18 @@ public final class TextEdgesTest {
       fault(e, other, "no ITEM begins so", text, 0);
     }
     fault(e, other, "a NUMBER begins no ITEM", "5", 0);
+    for (String word : new String[] {"deed", "double", "tallow", "copy", "stacked", "buried", "false", "shutter", "ice", "candle", "summer"}) {
+      fault(e, other, "but its first letter is", "x" + word.substring(1) + " 0", 0);
+      fault(e, other, "but its last letter is", word.substring(0, word.length() - 1) + "x 0", 0);
+    }
+    fault(e, other, "but its first letter is", "deed 0 xax 5", 7);
+    fault(e, other, "but its first letter is", "deed 0 xn 0", 7);
+    fault(e, other, "but its first letter is", "shutter 0 xpen", 10);
+    fault(e, other, "but its first letter is", "shutter 0 xhut", 10);
+    fault(e, other, "but its first letter is", "candle 0 xere", 9);
+    fault(e, other, "but its first letter is", "candle 0 xone", 9);
+    fault(e, "WORDS (letters a to z)", "with a behind it", "deeda 0", 0);
+    fault(e, "WORDS (letters a to z)", "with z behind it", "deedz 0", 0);
     fault(e, other, "a SIGN begins no ITEM", ";", 0);
     fault(e, other, "a WORD for a SHELF", "deed wax 5", 5);
     fault(e, other, "a SIGN for a SHELF", "deed;deed 0", 4);
@@ -148,6 +160,8 @@ public final class TextEdgesTest {
     fault(e, other, "a NUMBER too many for ICE", "ice 0 1 1", 8);
     fault(e, other, "open for a CANDLE", "candle 0 open", 9);
     fault(e, other, "a NUMBER for a CANDLE", "candle 0 1", 9);
+    fault(e, other, "a WORD for a CANDLE's SHELF", "candle here", 7);
+    fault(e, other, "a WORD for ICE's SHELF", "ice here 5", 4);
     fault(e, other, "here and gone", "candle 0 here gone", 14);
     fault(e, other, "a WORD for SUMMER", "summer shut", 7);
     fault(e, other, "a NUMBER too many for SUMMER", "summer 4 0", 9);

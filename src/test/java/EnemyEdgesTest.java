@@ -10,6 +10,9 @@ public final class EnemyEdgesTest {
       "say[summer 30; deed 0 wax 44; deed 1 wax 38; deed 2 wax 32; deed 2 wax 32 on 2; deed 4 wax 20 on 2; deed 5 wax 99]; ";
   private static final String STAYS = "count(3) = 0; now(0) = 0; now(2) = 0; now(1) = 63";
 
+  /** The COPY drops on the DEED when it is softest, and runs it; with SHUTTER 1 open it drops too early for that. */
+  private static final String SAVED = "say[summer 30; copy 1 wax 43; deed 2 wax 41; shutter 0 open; shutter 2 open; shutter 4 open; shutter 5 open]; ";
+
   public static void main(String[] args) {
     Edge edge = new Edge("enemy edges");
     cases(edge);
@@ -84,6 +87,7 @@ public final class EnemyEdgesTest {
     e.edge("23 'of several the least set' all eight HOLD anyhow, of one", EIGHT, "enemy(1,1) = 1", "count(3) = 0; now(1) = 255");
     e.edge("23 'of several the least set' all eight HOLD anyhow, of three", EIGHT, "enemy(3,1) = 7", "count(3) = 0; now(1) = 255");
     e.edge("23 'of several the least set' but seven of eight HOLD", EIGHT + "change(3,3,50); hours(1); ", "enemy(2,1) = 3", "count(3) = 0; now(1) = 247");
+    e.edge("23 'An enemy opens k (0 to 6) of the SHUTTERS' one, though that saves a PEACE", SAVED + "shelf(3,0,1); ", "enemy(1,24) = 2", "count(3) = 61; ahead(24,0) = 0");
     e.edge("23 'with which fewest PEACES HOLD' the last SHUTTER", "say[summer 30; deed 5 wax 14]; ", "enemy(1,24) = 32", "count(3) = 0");
   }
 
@@ -94,6 +98,7 @@ public final class EnemyEdgesTest {
     e.edge("24 'How many PEACES HOLD then.' all opened", FRONTIER, "worst(6,24) = 1", STAYS);
     e.edge("24 'How many PEACES HOLD then.' none, there being none shut", FRONTIER + ALL_OPEN, "worst(0,24) = 1", "count(3) = 63");
     e.edge("24 'How many PEACES HOLD then.' none is left", "say[summer 30; deed 5 wax 14]; ", "worst(1,24) = 0", "count(3) = 0; now(1) = 1");
+    e.edge("24 'How many PEACES HOLD then.' more than with none opened", SAVED + "shelf(3,0,1); ", "worst(1,24) = 1", "worst(0,24) = 0; count(3) = 61");
     e.edge("24 'How many PEACES HOLD then.' none that has RUN", EIGHT + "change(3,3,50); hours(1); ", "worst(2,1) = 7", "count(3) = 0");
   }
 
@@ -134,6 +139,7 @@ public final class EnemyEdgesTest {
     e.edge("26 'The SHUTTER, shut, that should be nailed up' the last", "say[summer 30; deed 5 wax 14]; ", "nail(24) = 5", "count(3) = 0; now(2) = 0");
     e.edge("26 'most PEACES HOLD at worst' two are more than one", three, "nail(24) = 1", "count(3) = 0; now(1) = 7");
     e.edge("26 'most PEACES HOLD at worst' eight are more than seven", "say[summer 30; deed 2 wax 32; deed 5; deed 5; deed 5; deed 5; deed 5; deed 5; deed 5]; ", "nail(24) = 2", "count(3) = 0; now(1) = 255");
+    e.edge("26 'an enemy opening one other that is shut' though that saves a PEACE", SAVED, "nail(24) = 3", "count(3) = 53; ahead(24,0) = 0");
     e.edge("26 'most PEACES HOLD at worst' the enemy may open the topmost", "say[summer 30; deed 0 wax 44; deed 0 wax 44; deed 3 wax 26]; ", "nail(24) = 0", "count(3) = 0; now(1) = 7");
     e.edge("26 'most PEACES HOLD at worst' the enemy may open the last", "say[summer 30; deed 0 wax 44; deed 5 wax 14; deed 5 wax 14]; ", "nail(24) = 5", "count(3) = 0; now(1) = 7");
     e.edge("26 'most PEACES HOLD at worst' one that is open can't be nailed up", three + "shelf(1,0,1); ", "nail(24) = 3", "count(3) = 2");

@@ -8,15 +8,15 @@ import java.util.regex.Pattern;
 /** Each promise has its edge cases, each finding of each act one, and each quotes what the document says. */
 public final class CoverTest {
   private static final int PROMISES = 49;
-  private static final List<String> WORDS = List.of("BEYOND", "FULL", "KIND", "NONE", "STATE", "MISSING", "SIZE");
-  private static final int FIRST_FINDING = -1000001;
+  static final List<String> WORDS = List.of("BEYOND", "FULL", "KIND", "NONE", "STATE", "MISSING", "SIZE");
+  static final int FIRST_FINDING = -1000001;
   /** The findings of each promise's act, by their begins; read off the document by eye, once. */
-  private static final String[] FINDINGS = {
+  static final String[] FINDINGS = {
     "", "", "BF", "B", "B", "B", "B", "B", "B", "B", "B", "BS", "B", "BS", "BSN", "SN", "BS", "BS", "BS", "BSN",
     "BSN", "BSN", "BS", "BSN", "BSN", "BSN", "BSN", "B", "B", "", "N", "S", "BS", "BS", "", "BF", "", "", "B", "BMK",
     "BZ", "BM", "BMK", "BM", "BMS", "", "N", "", "B", "B"
   };
-  private static final String BEGINS = "BFKNSMZ";
+  static final String BEGINS = "BFKNSMZ";
 
   private static final Check check = new Check("cover");
 

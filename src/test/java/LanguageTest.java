@@ -1,6 +1,12 @@
 import java.io.IOException;
+import java.lang.reflect.Field;
+import java.lang.reflect.Modifier;
 import java.nio.file.Files;
 import java.nio.file.Path;
+import java.util.ArrayList;
+import java.util.List;
+import java.util.Map;
+import java.util.TreeMap;
 import java.util.regex.Matcher;
 import java.util.regex.Pattern;
 
@@ -22,6 +28,10 @@ public final class LanguageTest {
   private static final int LONGEST_METHOD = 70;
   private static final int MOST_CLASSES = 14;
   private static final int MOST_PARAMETERS = 7;
+  private static final int MOST_FIELDS = 22;
+  private static final int DEEPEST = 8;
+  private static final Pattern HEAD = Pattern.compile(
+      "\n( +)((public|private|static|final) )*[\\w<>]+(\\[\\])* (\\w+)\\(([^)]*)\\) \\{\n");
 
   private static final Check check = new Check("language");
 
@@ -41,6 +51,8 @@ public final class LanguageTest {
     long classes = Pattern.compile("\\b(class|enum|interface|record)\\s+\\w").matcher(code).results().count();
     check.that("rule 11: as many classes: " + classes, classes >= 1 && classes <= MOST_CLASSES);
     methods(code);
+    depths(code);
+    fields(WaxTreaties.class);
     check.end();
   }
 
@@ -54,14 +66,53 @@ public final class LanguageTest {
   }
 
   private static void methods(String code) {
-    Pattern head = Pattern.compile("\n( +)((public|private|static|final) )*[\\w<>]+(\\[\\])* \\w+\\(([^)]*)\\) \\{\n");
-    Matcher matcher = head.matcher(code);
+    Matcher matcher = HEAD.matcher(code);
     while (matcher.find()) {
-      int end = code.indexOf("\n" + matcher.group(1) + "}", matcher.end());
-      long lines = end < 0 ? 0 : code.substring(matcher.end(), end).lines().count();
-      check.that("rule 11: too long: " + matcher.group(), lines <= LONGEST_METHOD);
+      check.that("rule 11: too long: " + matcher.group(), body(code, matcher).lines().count() <= LONGEST_METHOD);
       check.that("rule 11: too many parameters: " + matcher.group(),
-          matcher.group(5).split(",").length <= MOST_PARAMETERS);
+          matcher.group(6).split(",").length <= MOST_PARAMETERS);
+    }
+  }
+
+  private static String body(String code, Matcher head) {
+    int end = code.indexOf("\n" + head.group(1) + "}", head.end());
+    return end < 0 ? "" : code.substring(head.end(), end);
+  }
+
+  /** Each method bears a name of its own, so names tell which calls which. */
+  private static void depths(String code) {
+    Map<String, String> bodies = new TreeMap<>();
+    Matcher matcher = HEAD.matcher(code);
+    while (matcher.find()) {
+      String was = bodies.put(matcher.group(5), body(code, matcher));
+      check.that("rule 1: two methods are called " + matcher.group(5), was == null);
+    }
+    for (String name : bodies.keySet()) {
+      check.that("rules 8, 11: too deep, or a recursion: " + name, depth(name, bodies, 1) <= DEEPEST);
+    }
+  }
+
+  private static int depth(String name, Map<String, String> bodies, int above) {
+    int deepest = above;
+    List<String> called = new ArrayList<>();
+    Matcher matcher = Pattern.compile("\\b(\\w+)\\(").matcher(bodies.get(name));
+    while (matcher.find()) {
+      if (bodies.containsKey(matcher.group(1)) && !called.contains(matcher.group(1)) && above <= DEEPEST) {
+        called.add(matcher.group(1));
+        deepest = Math.max(deepest, depth(matcher.group(1), bodies, above + 1));
+      }
+    }
+    return deepest;
+  }
+
+  private static void fields(Class<?> of) {
+    int fields = 0;
+    for (Field field : of.getDeclaredFields()) {
+      fields += Modifier.isStatic(field.getModifiers()) ? 0 : 1;
+    }
+    check.that("rule 11: as many fields: " + of + " " + fields, fields <= MOST_FIELDS);
+    for (Class<?> inside : of.getDeclaredClasses()) {
+      fields(inside);
     }
   }
 }
